@@ -2019,7 +2019,7 @@ public final class WindBoat {
      * game alike (or is one row), so it is enough to try the mixes of all square parts.
      */
     private static final class Game {
-        private static final long LESS_THAN_ANY = -1_000_000;
+        private static final long LESS_THAN_ANY = -1000000;
 
         private final int[] pays;
         private final long[] mix = new long[3];
