@@ -325,6 +325,10 @@ public final class PromiseTest {
         fault("cell 1", 0);
         fault("Shut 1", 0);
         fault("shuts 1", 0);
+        fault("shutz 1", 0);
+        fault("gust cella", 5);
+        fault("gust zcell", 5);
+        fault("gust 19cell", 7);
         fault("shut shut", 5);
         fault("shut 1 if", 9);
         fault("shut 1 if 2 if 3", 12);
@@ -509,6 +513,12 @@ public final class PromiseTest {
         due(x.soonest(0, 6, 0), 2, "by MAKER's");
 
         x = afloat();
+        x.speed(4, 2, 1);
+        x.cell(7, 1, 0);
+        x.cell(1, 1, 0);
+        due(x.soonest(0, 6, 1), 100, "PACE 1");
+
+        x = afloat();
         x.wind(0, 0, 0);
         for (int b = 0; b < 5; b++) for (int a = 0; a < 5; a++) x.speed(a, b, b == 0 ? 2 : 50);
         x.wind(10, 0, 16);
@@ -574,6 +584,13 @@ public final class PromiseTest {
         x.cell(20, 1, 0);
         due(x.soonest(0, 21, 1), 12, "and on by CELL 14 alone");
         for (int k = 0; k < 4; k++) due(x.plan(0, 21, k), steps[k], "the STATE of the least number between, STEP " + k);
+
+        x = new WindBoat();
+        x.sail(3);
+        x.speed(4, 0, 99);
+        x.at(40, 0);
+        due(x.soonest(0, 30, 1), 5, "STEPS of one TICK: PACE 118");
+        for (int k = 0; k < 5; k++) due(x.plan(0, 30, k), 40, "each of them");
 
         x = calm();
         x.sail(2);
@@ -687,7 +704,13 @@ public final class PromiseTest {
         promise = 27;
         due(x.worth(), 0, "WORTH in one GROUP");
         x.group(1, 2);
+        rule(x, "shut cell = 1");
+        due(x.worth(), 0, "WORTH when one choice is shut, asked ahead of a tree");
+        rule(x, "shut 0");
         due(x.worth(), 152 - 136, "WORTH in two GROUPS");
+        x.wind(1, 0, 16);
+        due(x.worth(), 0, "WORTH when both worlds are alike, asked ahead of a tree");
+        x.wind(1, 0, 8);
         promise = 26;
         due(x.tree(0, 1), 136, "MEAN in two GROUPS");
         due(x.tree(0, 0), 0, "the first choice that waits for the telling");
@@ -790,9 +813,12 @@ public final class PromiseTest {
         for (int v : new int[] {1000, -1000, Integer.MIN_VALUE}) {
             x.lay(4);
             x.set(3, v);
-            due(x.game(), 0, "game() with " + v);
+            due(x.game(), 0, "game() with " + v + " last");
+            x.lay(4);
+            x.set(0, v);
+            due(x.game(), 0, "game() with " + v + " first");
         }
-        due(x.status(-7), 3, "status(-7)");
+        due(x.status(-7), 6, "status(-7)");
         x.lay(0);
         due(x.game(), 0, "game() of none");
         due(x.status(-5), 2, "status(-5) then");
@@ -908,6 +934,13 @@ public final class PromiseTest {
         due(x.sailOf(0, 2), 0, "but it isn't");
         x.at(630, 9);
         due(x.go(4), NO, "HOUR 1 has too much FORCE");
+        x.wind(26, 0, 16);
+        x.at(130, 18);
+        due(x.go(5), NO, "the SAIL would be TORN as it turns, though HOUR 2 is calm");
+        due(x.sailOf(0, 2), 0, "but it isn't, as the call is refused");
+        due(x.boat(3), 18, "nor did TICKS go by");
+        x.at(150, 20);
+        due(x.go(5), 23, "without a TURN in HOUR 1");
         x.at(40, 9);
         due(x.go(4), 11, "but HOUR 0 is when it begins");
         due(x.sailOf(0, 2), 1, "and TORN it is as the STEP goes on");
@@ -1020,6 +1053,18 @@ public final class PromiseTest {
         due(x.boat(6), 0, "none is TIRED");
         rule(x, "tired hour * 6");
         due(x.boat(6), 2, "tired in THE BOAT's HOUR (1)");
+        WindBoat y = new WindBoat();
+        y.sail(3);
+        y.hand();
+        y.at(0, 0);
+        rule(y, "tired sail");
+        y.stay(2);
+        due(y.boat(6), 0, "tired asks of the KIND of SAIL 0, which is 3");
+        y.sail(2);
+        y.at(1, 0);
+        due(y.boat(6), 0, "also when another SAIL is there, and up");
+        y.stay(1);
+        due(y.boat(6), 1, "TIREDNESS 3");
         x.at(0, 120);
         rule(x, "tired 6 if hour = 11");
         due(x.boat(6), 2, "HOUR of TICK 120");
@@ -1043,6 +1088,19 @@ public final class PromiseTest {
         for (int what = 0; what < 5; what++) due(x.lost(0, what), what < 3 ? 0 : 4, "nothing is LOST");
         x.go(4);
         due(x.lost(0, 3), 4, "from where it was put");
+
+        x.at(40, 118);
+        x.mark(6);
+        due(x.lost(0, 3), 120, "SAILED just at TICK 120");
+        x.at(40, 119);
+        due(x.lost(0, 3), 999, "and not behind it");
+
+        x = new WindBoat();
+        x.sail(3);
+        x.speed(4, 0, 99);
+        x.at(40, 0);
+        x.mark(30);
+        due(x.lost(0, 3), 5, "STEPS of one TICK");
 
         // MAKER's: HEADING 4 is fast, so PLAN to 13 is 6 (HEADING 4), 13 (HEADING 3); truly HEADING 4 takes 25
         x = calm();
@@ -1108,7 +1166,7 @@ public final class PromiseTest {
         x.group(2, 1);
         x.rival(3, 3, 33);
         x.hand();
-        x.learn(1, 1, 5);
+        for (int i = 0; i < 3; i++) x.learn(1, 1, 5);
         rule(x, "tired 3");
         x.go(4);
         promise = 39;
@@ -1118,7 +1176,8 @@ public final class PromiseTest {
         x.wind(56, 1, 1);
         x.mark(1);
         x.speed(0, 0, 9);
-        x.learn(1, 1, 5);
+        x.learn(1, 1, 1);
+        x.learn(1, 1, 99);
         x.sail(4);
         x.hand();
         x.sleep(0, 1);
@@ -1129,8 +1188,10 @@ public final class PromiseTest {
         x.rival(3, 3, 44);
         x.go(4);
         x.at(1210, 77);
-        x.wind(6, 0, 39);
+        x.wind(6, 5, 39);
+        x.wind(76, 0, 39);
         x.stay(1);
+        due(x.sailOf(0, 2), 1, "the SAIL is TORN meanwhile");
         type(x, "gust");
         x.lay(3);
         x.set(0, 7);
@@ -1139,14 +1200,18 @@ public final class PromiseTest {
         due(x.status(-2), refused, "status stays");
         due(x.row(0), 7, "THE ROW stays");
         due(x.count(6), 4, "THE TAPE stays");
-        int[] want = {0, 7, 1, 0, 1, 1, 4, 1, 6, 1, 35, 1};
+        int[] want = {0, 7, 1, 0, 1, 1, 4, 3, 6, 1, 35, 1};
         for (int what = 0; what < 12; what++) due(x.count(what), want[what], "count(" + what + ") behind back()");
         int[] boat = {6, 4, 0, 2, 2, 1, 0, 2};
         for (int what = 0; what < 8; what++) due(x.boat(what), boat[what], "boat(" + what + ") behind back()");
-        due(x.blows(6, 9, 2), 16, "SHELTER and wind");
+        due(x.blows(6, 9, 2), 16, "SHELTER and FORCE");
+        due(x.blows(6, 9, 0), 0, "FROM");
         due(x.sailOf(0, 2), 0, "WHOLE");
         due(x.table(0, 0, 0), 0, "MAKER's");
-        due(x.table(1, 1, 2), 1, "OWN ROWS");
+        due(x.table(1, 1, 1), 5, "LEARNT");
+        due(x.table(1, 1, 2), 3, "OWN ROWS");
+        due(x.table(1, 1, 3), 5, "the least of them");
+        due(x.table(1, 1, 4), 5, "the greatest of them");
         due(x.says(20, 0, 0), 3, "RULES");
         due(x.telling(0, 0), 3, "TELLINGS");
         due(x.choice(1, 0), 8, "CHOICES");
@@ -1155,6 +1220,9 @@ public final class PromiseTest {
         x.mark(12);
         due(x.lost(0, 4), 4, "where it was put");
         due(x.back(), 2, "back() again");
+        x.choice(0, 6);
+        x.mark(12);
+        due(x.comes(0, 0), 6, "the second TELLING (4), then a STEP");
         due(x.telling(0, 0), 3, "TELLINGS again");
         promise = 39;
         x.at(0, 50);
