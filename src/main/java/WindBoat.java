@@ -47,20 +47,31 @@ public final class WindBoat {
     private static final int GUST = 1;
     private static final int TIRED = 2;
 
-    private final Log now = new Log();
+    private final Log now;
     private final Log kept = new Log();
     private boolean isKept;
     private final Tape tape = new Tape();
-    private final Chart chart = new Chart(now);
-    private final Ways ways = new Ways(now, chart);
-    private final Choices choices = new Choices(now, chart, ways);
-    private final Losses losses = new Losses(now, chart, ways);
-        private final int[] numbers = new int[ROW];
-    private final Game mixing = new Game(numbers);
+    private final Chart chart;
+    private final Ways ways;
+    private final Choices choices;
+    private final Losses losses;
+    private final int[] numbers;
     private int numbersLaid = NONE;
+    private final Game mixing;
     private final int[] refusals = new int[1 - FULL];
 
     public WindBoat() {
+        Log log = new Log();
+        Chart chartOfLog = new Chart(log);
+        Ways waysOfChart = new Ways(log, chartOfLog);
+        int[] row = new int[ROW];
+        now = log;
+        chart = chartOfLog;
+        ways = waysOfChart;
+        choices = new Choices(log, chartOfLog, waysOfChart);
+        losses = new Losses(log, chartOfLog, waysOfChart);
+        numbers = row;
+        mixing = new Game(row);
     }
 
     // ---- the sea, winds
@@ -1395,9 +1406,10 @@ public final class WindBoat {
                 if (step > Tape.WORKED) {
                     stack[top] = step >= 0 ? step : named[Tape.NAMED - step];
                     top++;
-                } else if (step == Tape.WORKED - Tape.NOT || step == Tape.WORKED - Tape.MINUS_OF_ONE) {
-                    int one = top > 0 ? stack[top - 1] : 0;
-                    stack[Math.max(0, top - 1)] = step == Tape.WORKED - Tape.NOT ? flag(one == 0) : -one;
+                } else if (step == Tape.WORKED - Tape.NOT && top > 0) {
+                    stack[top - 1] = flag(stack[top - 1] == 0);
+                } else if (step == Tape.WORKED - Tape.MINUS_OF_ONE && top > 0) {
+                    stack[top - 1] = -stack[top - 1];
                 } else if (top > 1) {
                     top--;
                     stack[top - 1] = together(Tape.WORKED - step, stack[top - 1], stack[top]);
