@@ -63,7 +63,8 @@ final class PartEdges {
             for (int h = 0; h < 8; h++) {
                 int row = cell / 6 + by[h][0], column = cell % 6 + by[h][1];
                 boolean is = row >= 0 && row < 6 && column >= 0 && column < 6;
-                x.then("at", 100 * cell + 10 * h, 0).due(is ? 2 + h % 2 : NO, "go", h).due(is ? 6 * row + column : cell, "boat", 0);
+                x.then("at", 100 * cell + 10 * h, 0).due(is ? 2 + h % 2 : NO, "go", h)
+                    .due(is ? 6 * row + column : cell, "boat", 0);
             }
         }
         Run.afloat(0).then("at", 540, 0).due(NONE, "plan", 0, 5, 0).refused(NO, "go", 2).refused(NO, "go", 0);
@@ -97,12 +98,15 @@ final class PartEdges {
     @Sentence("WINDS 0 .. 6: WORLDS 0 .. 5, and 6 THE TRUTH")
     static void part1_winds_0_to_6_worlds_0_to_5() {
         Run x = Run.afloat(0);
-        for (int wind = 0; wind < 7; wind++) x.due(NONE, "wind", wind, 0, 5).due(2, "soonest", wind, 8, 1).due(1, "plan", wind, 8, -1);
+        for (int wind = 0; wind < 7; wind++) x.due(NONE, "wind", wind, 0, 5).due(2, "soonest", wind, 8, 1)
+            .due(1, "plan", wind, 8, -1);
         for (int world = 0; world < 6; world++) {
             x.due(0, "group", world, 0).due(999, "rival", 0, world, 999).due(3, "weight", world);
         }
-        x.refused(BEYOND, "wind", 7, 0, 0).refused(BEYOND, "blows", 7, 0, 0).refused(BEYOND, "soonest", 7, 0, 0).refused(BEYOND, "plan", 7, 0, 0);
-        x.refused(BEYOND, "group", 6, 0).refused(BEYOND, "comes", 0, 6).refused(BEYOND, "weight", 6).refused(BEYOND, "rival", 0, 6, 0);
+        x.refused(BEYOND, "wind", 7, 0, 0).refused(BEYOND, "blows", 7, 0, 0).refused(BEYOND, "soonest", 7, 0, 0)
+            .refused(BEYOND, "plan", 7, 0, 0);
+        x.refused(BEYOND, "group", 6, 0).refused(BEYOND, "comes", 0, 6).refused(BEYOND, "weight", 6)
+            .refused(BEYOND, "rival", 0, 6, 0);
         x.refused(BEYOND, "lost", 6, 0);
     }
 
@@ -132,7 +136,8 @@ final class PartEdges {
 
     @Sentence("A WORLD is TOLD, if one of its HOURS is")
     static void part1_a_world_is_told_by_one_hour_even_the_last_of_force_0() {
-        Run x = Run.afloat(0).then("wind", 6, 0, 10).due(0, "count", 8).refused(Run.MISSING, "worth").refused(Run.MISSING, "tree", 0, 0);
+        Run x = Run.afloat(0).then("wind", 6, 0, 10).due(0, "count", 8).refused(Run.MISSING, "worth")
+            .refused(Run.MISSING, "tree", 0, 0);
         x.then("wind", 115, 0, 0).due(1, "count", 8).due(0, "worth").due(0, "tree", 0, 0);
         x.then("wind", 105, 0, 0).due(1, "count", 8).then("wind", 0, 0, 0).due(2, "count", 8);
     }
@@ -141,7 +146,8 @@ final class PartEdges {
     static void part1_force_in_a_cell_is_cut() {
         int[][] cases = {{39, 90, 3}, {39, 0, 39}, {39, 1, 38}, {1, 1, 0}, {10, 90, 1}, {9, 90, 0}, {0, 90, 0}, {39, 50, 19}, {29, 10, 26}};
         Run x = new Run();
-        for (int[] c : cases) x.then("wind", 0, 0, c[0]).then("cell", 8, 0, c[1]).due(c[2], "blows", 0, 8, 2).due(c[0], "blows", 0, 8, 1);
+        for (int[] c : cases) x.then("wind", 0, 0, c[0]).then("cell", 8, 0, c[1]).due(c[2], "blows", 0, 8, 2)
+            .due(c[0], "blows", 0, 8, 1);
     }
 
     @Sentence("ANGLE of a HEADING to FROM: how many eighths they are apart the shorter way (0 .. 4)")
@@ -198,8 +204,17 @@ final class PartEdges {
 
     @Sentence("SAILS 0 .. 2 as they come")
     static void part2_sails_0_to_2_as_they_come() {
-        Run x = new Run().refused(BEYOND, "sailOf", 0, 0).due(0, "sail", 4).due(1, "sail", 4).refused(BEYOND, "sailOf", 2, 0).due(2, "sail", 0);
-        x.refused(FULL, "sail", 0).due(4, "sailOf", 0, 0).due(4, "sailOf", 1, 0).due(0, "sailOf", 2, 0).refused(BEYOND, "sailOf", 3, 0);
+        Run x = new Run().refused(BEYOND, "sailOf", 0, 0).due(0, "sail", 4).due(1, "sail", 4).refused(BEYOND, "sailOf", 2, 0)
+            .due(2, "sail", 0);
+        x.refused(FULL, "sail", 0).due(4, "sailOf", 0, 0).due(4, "sailOf", 1, 0).due(0, "sailOf", 2, 0)
+            .refused(BEYOND, "sailOf", 3, 0);
+        // ways with all three of them, from the STATE of the greatest number: with KITE 5 TICKS, with the others 3
+        x = Run.ready().then("sail", 1).then("sail", 4).due(863, "at", 3572, 0).then("mark", 28).due(5, "soonest", 0, 28, 1)
+            .due(72, "plan", 0, 28, 0);
+        x.due(5, "lost", 0, 3).due(5, "lost", 0, 4).due(842, "at", 3502, 0).due(6, "soonest", 0, 28, 1).due(72, "plan", 0, 28, 0)
+            .due(6, "lost", 0, 3);
+        x.due(851, "at", 3532, 0).due(9, "lost", 0, 3).due(9, "go", 7).due(28, "boat", 0).due(863, "at", 3572, 0).then("hand")
+            .due(5, "soonest", 0, 28, 1).due(70, "plan", 0, 28, 0);
     }
 
     @Sentence("of KINDS 0 SAIL, 1 JIB under SAIL, 2 STORM under JIB, 3 RUNNER under SAIL, 4 KITE under RUNNER")
@@ -277,14 +292,17 @@ final class PartEdges {
         Run x = Run.afloat(0).then("hand").then("hand").then("sleep", 1, 1).due(3, "stay", 3);
         x.due(3, "sleep", 0, 1).due(0, "sleep", 1, 0).due(4, "stay", 1).due(1, "sleep", 0, 1).due(1, "sleep", 1, 0);
         x.due(5, "stay", 1).due(0, "sleep", 0, 1).due(6, "stay", 1).due(0, "sleep", 0, 0).due(3, "sleep", 1, 1);
-        x.due(7, "stay", 1).due(1, "sleep", 0, 0).due(1, "sleep", 1, 1).due(60 + 7, "stay", 60).due(61, "sleep", 0, 0).due(0, "sleep", 1, 0);
+        x.due(7, "stay", 1).due(1, "sleep", 0, 0).due(1, "sleep", 1, 1).due(60 + 7, "stay", 60).due(61, "sleep", 0, 0)
+            .due(0, "sleep", 1, 0);
     }
 
     @Sentence("TIRED: TIREDNESS is at least what tired SAYS")
     static void part2_tired_from_just_what_tired_says_on() {
-        Run x = Run.afloat(0).then("hand").then("stay", 39).due(0, "boat", 6).due(2, "boat", 4).then("stay", 1).due(1, "boat", 6).due(3, "boat", 4);
+        Run x = Run.afloat(0).then("hand").then("stay", 39).due(0, "boat", 6).due(2, "boat", 4).then("stay", 1).due(1, "boat", 6)
+            .due(3, "boat", 4);
         x.ruled("tired 41").due(0, "boat", 6).ruled("tired 40").due(1, "boat", 6).ruled("tired 0 - 1").due(1, "boat", 6);
-        x = Run.afloat(0).then("hand").ruled("tired 0").due(1, "boat", 6).ruled("tired 1").due(0, "boat", 6).then("stay", 1).due(1, "boat", 6);
+        x = Run.afloat(0).then("hand").ruled("tired 0").due(1, "boat", 6).ruled("tired 1").due(0, "boat", 6).then("stay", 1)
+            .due(1, "boat", 6);
     }
 
     @Sentence("CHANGE of a SAIL takes 2 TICKS and as many as HANDS are awake and TIRED; 9, if none is awake")
@@ -314,18 +332,21 @@ final class PartEdges {
                 x.then("at", 1400 + 10 * from, 0).due(apart[(to - from + 8) % 8] + 2 + to % 2, "go", to);
             }
         }
-        x.then("at", 1470, 0).due(3, "soonest", 0, 8, 1).then("at", 1400, 0).due(4, "soonest", 0, 7, 1).due(6, "soonest", 0, 20, 1);
+        x.then("at", 1470, 0).due(3, "soonest", 0, 8, 1).then("at", 1400, 0).due(4, "soonest", 0, 7, 1)
+            .due(6, "soonest", 0, 20, 1);
     }
 
     @Sentence("CHANGE to another SAIL (one that is there)")
     static void part2_a_change_only_to_a_sail_that_is_there() {
-        Run x = Run.rigged(4).then("wind", 0, 0, 17).then("at", 1440, 0).due(NONE, "soonest", 0, 20, 1).refused(BEYOND, "raise", 1);
+        Run x = Run.rigged(4).then("wind", 0, 0, 17).then("at", 1440, 0).due(NONE, "soonest", 0, 20, 1)
+            .refused(BEYOND, "raise", 1);
         x.then("sail", 0).due(9 + 2, "soonest", 0, 20, 1).due(41, "plan", 0, 20, 0).refused(BEYOND, "raise", 2);
     }
 
     @Sentence("STEP: to the CELL BESIDE in HEADING, if that isn't LAND")
     static void part2_no_step_to_land_but_away_from_it() {
-        Run x = Run.afloat(0).then("cell", 8, 1, 0).refused(NO, "go", 0).due(NONE, "soonest", 0, 8, 1).due(NONE, "plan", 0, 8, -1);
+        Run x = Run.afloat(0).then("cell", 8, 1, 0).refused(NO, "go", 0).due(NONE, "soonest", 0, 8, 1)
+            .due(NONE, "plan", 0, 8, -1);
         x.then("cell", 14, 1, 0).due(4, "go", 2).due(NONE, "soonest", 0, 14, 1);
         x.then("cell", 8, 0, 0).then("cell", 14, 0, 0).then("at", 1400, 0).due(2, "go", 0);
     }
@@ -348,7 +369,8 @@ final class PartEdges {
         Run x = Run.afloat(0).then("wind", 6, 0, 10).ruled("gust 9").refused(NO, "go", 0).due(NONE, "soonest", 6, 8, 1);
         x.ruled("gust 10").due(2, "soonest", 6, 8, 1).due(2, "go", 0);
         x = Run.afloat(0).then("wind", 6, 0, 10).ruled("gust 9 if cell = 8").due(2, "go", 0).refused(NO, "go", 0);
-        x = Run.afloat(0).ruled("gust 0").due(2, "soonest", 6, 8, 1).ruled("gust -1").due(NONE, "soonest", 6, 8, 1).refused(NO, "go", 0);
+        x = Run.afloat(0).ruled("gust 0").due(2, "soonest", 6, 8, 1).ruled("gust -1").due(NONE, "soonest", 6, 8, 1)
+            .refused(NO, "go", 0);
         x = Run.afloat(0).then("wind", 6, 0, 25).ruled("gust 99").due(NONE, "soonest", 6, 8, 1).refused(NO, "go", 0);
         x.then("cell", 8, 0, 90).refused(NO, "go", 0).then("cell", 14, 0, 4).due(2, "soonest", 6, 8, 1).due(2, "go", 0);
         x = Run.afloat(9).then("wind", 16, 0, 25).due(11, "soonest", 6, 8, 1).then("at", 1400, 10).due(NONE, "soonest", 6, 8, 1);
@@ -359,10 +381,12 @@ final class PartEdges {
     static void part2_no_step_with_pace_0() {
         Run x = Run.rigged(1).then("at", 1440, 0);
         for (int angle = 0; angle < 5; angle++) x.call("speed", angle, 0, 1);
-        x.due(NONE, "soonest", 0, 20, 1).refused(NO, "go", 4).then("speed", 4, 0, 2).due(100, "soonest", 0, 20, 1).due(100, "go", 4);
+        x.due(NONE, "soonest", 0, 20, 1).refused(NO, "go", 4).then("speed", 4, 0, 2).due(100, "soonest", 0, 20, 1)
+            .due(100, "go", 4);
         x = Run.afloat(0);
         for (int angle = 0; angle < 5; angle++) x.call("speed", angle, 0, 0);
-        x.refused(NO, "go", 0).due(NONE, "soonest", 0, 8, 1).due(0, "soonest", 0, 14, 1).then("wind", 10, 0, 8).due(12, "soonest", 0, 8, 1);
+        x.refused(NO, "go", 0).due(NONE, "soonest", 0, 8, 1).due(0, "soonest", 0, 14, 1).then("wind", 10, 0, 8)
+            .due(12, "soonest", 0, 8, 1);
         for (int i = 0; i < 3; i++) x.call("learn", 0, 0, 1);
         x.due(12, "soonest", 0, 8, 1).due(12, "soonest", 0, 8, 0).due(100, "go", 0);
     }
@@ -373,11 +397,16 @@ final class PartEdges {
         int[][] odd = {{99, 2}, {70, 2}, {69, 3}, {47, 3}, {46, 4}, {35, 4}, {14, 10}, {2, 70}};
         Run x = Run.ready();
         // a way round CELL 20 takes 9 TICKS
-        for (int[] c : even) x.then("speed", 4, 0, c[0]).then("at", 1440, 0).due(Math.min(c[1], 9), "soonest", 6, 20, 0).due(c[1], "go", 4);
+        for (int[] c : even) x.then("speed", 4, 0, c[0]).then("at", 1440, 0).due(Math.min(c[1], 9), "soonest", 6, 20, 0)
+            .due(c[1], "go", 4);
         for (int[] c : odd) x.then("speed", 3, 0, c[0]).then("at", 1430, 0).due(c[1], "go", 3);
         x = Run.rigged(3);
         x.then("speed", 4, 0, 83).then("at", 1440, 0).due(2, "go", 4).then("speed", 4, 0, 84).then("at", 1440, 0).due(1, "go", 4);
         x.then("speed", 4, 0, 99).then("at", 1440, 0).due(1, "go", 4);
+        x.then("at", 40, 0).then("mark", 30).due(5, "soonest", 0, 30, 1).due(5, "plan", 0, 30, -1).due(5, "lost", 0, 3);
+        for (int k = 0; k < 5; k++) x.due(40, "plan", 0, 30, k);
+        x.then("at", 40, 115).due(120, "soonest", 0, 30, 1).due(120, "lost", 0, 3).then("at", 40, 116)
+            .due(NONE, "soonest", 0, 30, 1);
         x = Run.rigged(4);
         x.then("speed", 3, 0, 89).then("at", 1430, 0).due(2, "go", 3).then("speed", 3, 0, 90).then("at", 1430, 0).due(1, "go", 3);
     }
@@ -386,7 +415,8 @@ final class PartEdges {
     static void part2_an_act_may_wait_and_ends_by_tick_120() {
         Run x = Run.afloat(118).due(120, "soonest", 0, 8, 1).due(1, "plan", 0, 8, -1).due(NONE, "soonest", 0, 7, 1);
         x.then("at", 1400, 119).due(NONE, "soonest", 0, 8, 1).due(NONE, "plan", 0, 8, -1).refused(NO, "go", 0);
-        x.then("at", 1410, 117).due(120, "soonest", 0, 9, 1).due(120, "soonest", 0, 8, 1).then("at", 1410, 118).due(NONE, "soonest", 0, 8, 1);
+        x.then("at", 1410, 117).due(120, "soonest", 0, 9, 1).due(120, "soonest", 0, 8, 1).then("at", 1410, 118)
+            .due(NONE, "soonest", 0, 8, 1);
         x.then("at", 1400, 120).due(120, "soonest", 0, 14, 1).due(NONE, "soonest", 0, 8, 1).refused(NO, "go", 0);
         x = Run.afloat(0).ruled("shut hour < 11").due(112, "soonest", 0, 8, 1).refused(NO, "go", 0).then("speed", 0, 0, 10);
         for (int land : new int[] {7, 9, 13, 15}) x.call("cell", land, 1, 0);
@@ -398,8 +428,10 @@ final class PartEdges {
 
     @Sentence("TORN SAILS aren't there (with one that is up no STEP begins, till another one is up)")
     static void part2_torn_sails_are_not_there() {
-        Run x = Run.ready().then("wind", 6, 0, 25).then("at", 1400, 0).then("stay", 1).due(1, "sailOf", 0, 2).then("wind", 6, 0, 0);
-        x.due(NONE, "soonest", 6, 8, 1).due(1, "soonest", 6, 14, 1).due(NONE, "plan", 6, 8, 0).due(0, "plan", 6, 14, -1).refused(NO, "go", 0);
+        Run x = Run.ready().then("wind", 6, 0, 25).then("at", 1400, 0).then("stay", 1).due(1, "sailOf", 0, 2)
+            .then("wind", 6, 0, 0);
+        x.due(NONE, "soonest", 6, 8, 1).due(1, "soonest", 6, 14, 1).due(NONE, "plan", 6, 8, 0).due(0, "plan", 6, 14, -1)
+            .refused(NO, "go", 0);
         x.then("sail", 1).due(1 + 9 + 2, "soonest", 6, 8, 1).due(1, "plan", 6, 8, 0).due(1 + 9, "raise", 1).due(12, "go", 0);
         x.refused(NO, "raise", 0).refused(NO, "at", 1400, 0);
         x.then("wind", 6, 0, 29).then("stay", 1).due(2, "count", 3).then("wind", 6, 0, 0).due(NONE, "soonest", 6, 2, 1);
@@ -412,7 +444,8 @@ final class PartEdges {
     @Sentence("for each STATE the least TICK (its LABEL) at which it can be; to a CELL: the least of its STATES'")
     static void part2_soonest_to_where_the_boat_is_is_its_tick() {
         Run x = Run.afloat(7).due(7, "soonest", 0, 14, 1).due(9, "soonest", 0, 8, 1).due(11, "soonest", 0, 9, 1);
-        x.then("cell", 14, 1, 0).due(7, "soonest", 0, 14, 1).then("at", 1500, 120).due(120, "soonest", 6, 15, 0).due(NONE, "soonest", 6, 9, 0);
+        x.then("cell", 14, 1, 0).due(7, "soonest", 0, 14, 1).then("at", 1500, 120).due(120, "soonest", 6, 15, 0)
+            .due(NONE, "soonest", 6, 9, 0);
     }
 
     @Sentence("back from its STATE of the least LABEL (of like ones the least number)")
@@ -431,6 +464,28 @@ final class PartEdges {
         // a STEP begun behind a LABEL: CELL 20 opens in HOUR 1, and its STATE with HEADING 2 is as soon as that with 4
         x = Run.ready().ruled("shut hour < 1 if cell = 20").then("at", 1440, 0).due(12, "soonest", 0, 20, 1);
         x.due(2, "plan", 0, 20, -1).due(50, "plan", 0, 20, 0).due(20, "plan", 0, 20, 1);
+    }
+
+    @Sentence("from which one ACT, begun at that one's LABEL or later, ends just at this one's LABEL")
+    static void part2_plan_came_by_no_step_that_ends_at_another_tick() {
+        // HEADING 2 takes 100 TICKS, or none may begin: CELL 15 is come to by 8 (HEADING 3) or 9 (HEADING 4), and left with HEADING 1
+        for (int speed = 0; speed < 2; speed++) {
+            Run x = Run.ready().then("speed", 2, 0, speed);
+            for (int land : new int[] {3, 4, 16, 20, 21}) x.call("cell", land, 1, 0);
+            x.then("at", 1420, 0).due(15, "soonest", 0, 10, 1).due(3, "plan", 0, 10, -1);
+            x.due(0, "plan", 0, 10, 0).due(30, "plan", 0, 10, 1).due(10, "plan", 0, 10, 2).due(NONE, "plan", 0, 10, 3);
+        }
+    }
+
+    @Sentence("Its STEPS (HEADING, SAIL), in order")
+    static void part2_steps_of_a_plan_in_order() {
+        // through a channel that turns by an eighth at each STEP
+        Run x = Run.ready();
+        for (int cell = 0; cell < 36; cell++) if (cell != 0 && cell != 1 && cell != 8 && cell != 14 && cell != 19 && cell != 18) x.call("cell", cell, 1, 0);
+        x.then("at", 20, 0).due(16, "soonest", 0, 18, 1).due(5, "plan", 0, 18, -1);
+        for (int k = 0; k < 5; k++) x.due(20 + 10 * k, "plan", 0, 18, k);
+        x.due(4, "plan", 0, 19, -1).due(20, "plan", 0, 19, 0).due(30, "plan", 0, 19, 1).due(40, "plan", 0, 19, 2)
+            .due(50, "plan", 0, 19, 3).due(NONE, "plan", 0, 19, 4);
     }
 
     @Sentence("till the first one. Its STEPS (HEADING, SAIL), in order")

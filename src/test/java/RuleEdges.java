@@ -49,7 +49,8 @@ final class RuleEdges {
         Run x = new Run().then("sail", 0).ruled("tired 1", 0, 1).ruled("tired 2", 11, 12).ruled("tired 3", 4, 6);
         int[] due = {1, 40, 40, 40, 3, 3, 40, 40, 40, 40, 40, 2};
         for (int hour = 0; hour < 12; hour++) x.due(due[hour], "says", 20, 0, hour);
-        x.type("tired 9").refused(NO, "rule", 12, 12).refused(NO, "rule", 0, 0).refused(NO, "rule", 5, 4).refused(NO, "rule", -1, 5);
+        x.type("tired 9").refused(NO, "rule", 12, 12).refused(NO, "rule", 0, 0).refused(NO, "rule", 5, 4)
+            .refused(NO, "rule", -1, 5);
         x.refused(NO, "rule", 0, 13).refused(NO, "rule", 12, 13).due(3, "rule", 0, 12);
         for (int hour = 0; hour < 12; hour++) x.due(9, "says", 20, 0, hour);
     }
@@ -275,6 +276,9 @@ final class RuleEdges {
         fault(0, "shu 1");
         fault(0, "tire 1");
         fault(0, "tiredd 1");
+        fault(0, "shutz 1");
+        fault(0, "shuta 1");
+        fault(5, "gust zcell");
         fault(5, "gust nots 1");
         fault(7, "gust 1 an 2");
         fault(5, "gust shelters");
@@ -314,8 +318,10 @@ final class RuleEdges {
 
     @Sentence("of RULES in force then with it whose if isn't 0 (or that have none) the one of the greatest number: its E")
     static void part3_the_rule_of_the_greatest_number_says_it() {
-        Run x = new Run().then("sail", 0).ruled("shut 1").ruled("shut 2 if cell = 5").ruled("shut 3 if cell - 6").ruled("gust 4").ruled("shut 5", 3, 4);
-        x.due(3, "says", 0, 5, 0).due(2, "why", 0, 5, 0).due(1, "says", 0, 6, 0).due(0, "why", 0, 6, 0).due(5, "says", 0, 6, 3).due(4, "why", 0, 6, 3);
+        Run x = new Run().then("sail", 0).ruled("shut 1").ruled("shut 2 if cell = 5").ruled("shut 3 if cell - 6").ruled("gust 4")
+            .ruled("shut 5", 3, 4);
+        x.due(3, "says", 0, 5, 0).due(2, "why", 0, 5, 0).due(1, "says", 0, 6, 0).due(0, "why", 0, 6, 0).due(5, "says", 0, 6, 3)
+            .due(4, "why", 0, 6, 3);
         x.ruled("shut 6 if cell - 5").due(3, "says", 0, 5, 0).due(6, "says", 0, 6, 0).due(6, "says", 0, 4, 3);
         x.ruled("shut 0").due(0, "says", 0, 5, 0).due(6, "why", 0, 5, 0);
     }
@@ -324,16 +330,19 @@ final class RuleEdges {
     static void part3_without_a_rule() {
         Run x = new Run().then("sail", 2);
         for (int hour = 0; hour < 12; hour++) {
-            x.due(0, "says", 0, 35, hour).due(39, "says", 10, 0, hour).due(40, "says", 20, 17, hour).due(NONE, "why", 10 * (hour % 3), 0, hour);
+            x.due(0, "says", 0, 35, hour).due(39, "says", 10, 0, hour).due(40, "says", 20, 17, hour)
+                .due(NONE, "why", 10 * (hour % 3), 0, hour);
         }
-        x.ruled("gust 1 if 0").due(39, "says", 10, 0, 0).due(NONE, "why", 10, 0, 0).ruled("gust 2", 1, 2).due(39, "says", 10, 0, 2).due(2, "says", 10, 0, 1);
+        x.ruled("gust 1 if 0").due(39, "says", 10, 0, 0).due(NONE, "why", 10, 0, 0).ruled("gust 2", 1, 2)
+            .due(39, "says", 10, 0, 2).due(2, "says", 10, 0, 1);
     }
 
     @Sentence("NAMES: cell, row (of the CELL), hour; sail (its KIND); shelter (of the CELL); hands (how many are awake now)")
     static void part3_names_at_their_ends() {
         Run x = new Run().then("sail", 3).then("sail", 4).then("cell", 35, 0, 90);
         x.ruled("shut cell").ruled("gust row").ruled("tired hour");
-        x.due(0, "says", 0, 0, 0).due(35, "says", 0, 35, 11).due(0, "says", 10, 5, 0).due(5, "says", 11, 30, 0).due(11, "says", 21, 0, 11).due(0, "says", 20, 9, 0);
+        x.due(0, "says", 0, 0, 0).due(35, "says", 0, 35, 11).due(0, "says", 10, 5, 0).due(5, "says", 11, 30, 0)
+            .due(11, "says", 21, 0, 11).due(0, "says", 20, 9, 0);
         x.ruled("shut sail").ruled("gust shelter").ruled("tired hands");
         x.due(3, "says", 0, 0, 0).due(4, "says", 1, 0, 0).due(90, "says", 10, 35, 0).due(0, "says", 10, 34, 0);
         for (int hand = 0; hand < 8; hand++) x.due(hand, "says", 20, 0, 0).then("hand");
@@ -342,7 +351,8 @@ final class RuleEdges {
 
     @Sentence("shut is asked of the CELL that is come to (sail: of the one that is up), gust of the one that is left")
     static void part3_shut_of_the_cell_that_is_come_to_gust_of_the_one_that_is_left() {
-        Run x = Run.ready().then("sail", 1).ruled("shut sail = 1").then("at", 1401, 0).refused(NO, "go", 0).due(9 + 2, "soonest", 0, 8, 1);
+        Run x = Run.ready().then("sail", 1).ruled("shut sail = 1").then("at", 1401, 0).refused(NO, "go", 0)
+            .due(9 + 2, "soonest", 0, 8, 1);
         x.then("at", 1400, 0).due(2, "go", 0);
         x = Run.afloat(0).then("cell", 8, 0, 50).then("cell", 14, 0, 20).ruled("shut shelter = 20").due(2, "soonest", 0, 8, 1);
         x.ruled("gust 0 - shelter / 50").due(2, "soonest", 0, 8, 1).due(2, "go", 0).refused(NO, "go", 0);
@@ -351,9 +361,14 @@ final class RuleEdges {
     // "its KIND 0, if there is none" can't be seen: THE BOAT is put with a SAIL, and until then no call asks tired
     @Sentence("tired of CELL 0 and SAIL 0 in THE BOAT's HOUR")
     static void part3_tired_is_asked_of_cell_0_and_sail_0() {
-        Run x = new Run().then("sail", 3).then("sail", 1).then("hand").then("cell", 0, 0, 7).then("cell", 14, 0, 2).then("at", 1401, 20);
+        Run x = new Run().then("sail", 3).then("sail", 1).then("hand").then("cell", 0, 0, 7).then("cell", 14, 0, 2)
+            .then("at", 1401, 20);
         x.ruled("tired shelter + cell").then("stay", 6).due(0, "boat", 6).then("stay", 1).due(1, "boat", 6);
-        x.ruled("tired sail + 5").due(0, "boat", 6).then("stay", 1).due(1, "boat", 6).then("at", 1401, 29).ruled("tired hour * 4").due(1, "boat", 6);
-        x.then("stay", 1).due(0, "boat", 6).then("at", 1401, 120).ruled("tired hour - 2").due(1, "boat", 6).ruled("tired hour - 1").due(0, "boat", 6);
+        x.ruled("tired sail + 5").due(0, "boat", 6).then("stay", 1).due(1, "boat", 6).then("at", 1401, 29)
+            .ruled("tired hour * 4").due(1, "boat", 6);
+        x.then("stay", 1).due(0, "boat", 6).then("at", 1401, 120).ruled("tired hour - 2").due(1, "boat", 6)
+            .ruled("tired hour - 1").due(0, "boat", 6);
+        new Run().then("sail", 3).then("hand").then("at", 0, 0).ruled("tired sail").then("stay", 2).due(0, "boat", 6)
+            .then("stay", 1).due(1, "boat", 6);
     }
 }

@@ -63,12 +63,15 @@ final class Run {
         for (int s = FULL; s <= MISSING; s++) {
             EdgeTest.check(behind.call("status", s), before.call("status", s) + (s == by ? 1 : 0), "status(" + s + ") behind " + text);
         }
-        for (int k = 0; k < LOOKS; k++) {
-            long[] was = twin().look(k);
-            long[] is = twin().then(name, args).look(k);
-            if (!Arrays.equals(was, is)) EdgeTest.fail(text + " was refused, but changed something (look " + k + ")");
-        }
+        alike(this, twin().then(name, args), text + " was refused, but changed something");
         return then(name, args);
+    }
+
+    /** Nothing that can be seen tells two objects apart (but for status). */
+    static void alike(Run one, Run other, String why) {
+        for (int k = 0; k < LOOKS; k++) {
+            if (!Arrays.equals(one.twin().look(k), other.twin().look(k))) EdgeTest.fail(why + " (look " + k + ")");
+        }
     }
 
     Run twin() {
