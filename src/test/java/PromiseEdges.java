@@ -843,6 +843,9 @@ final class PromiseEdges {
         Run.alike(torn().then("image").ruled("gust 7 if cell").then("sail", 3).then("hand"),
             changed(torn().then("image")).then("back").ruled("gust 7 if cell").then("sail", 3)
                 .then("hand"), "what comes behind back()");
+        // nothing of a longer RULE is left where a shorter one comes behind back()
+        Run y = new Run().then("sail", 0).then("image").ruled("gust not 5").ruled("tired -7 if not 0").then("back").ruled("gust 5").ruled("tired 7 if 1");
+        y.due(5, "says", 10, 0, 0).due(7, "says", 20, 0, 0).due(0, "why", 10, 0, 0).due(1, "why", 20, 0, 0);
         // a WORLD that isn't TOLD again
         Run x = Run.afloat(0).then("wind", 0, 0, 0).then("image").then("wind", 1, 0, 0).due(2, "tree", 0, 5).due(0, "back")
             .due(1, "tree", 0, 5).due(1, "count", 8);
