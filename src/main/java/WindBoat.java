@@ -476,8 +476,6 @@ public final class WindBoat {
             return refuse(BEYOND);
         }
         int turn = apart(now.boat.heading, heading);
-        chart.ask();
-        chart.draw(TRUTH, LEARNT);
         int step = stepTicksBehind(turn, heading);
         if (step == 0 || now.boat.tick + turn + step > LAST_TICK) {
             return refuse(NO);
@@ -674,10 +672,16 @@ public final class WindBoat {
     private int stepTicksBehind(int turn, int heading) {
         Boat boat = now.boat;
         int begin = boat.tick + turn;
-        if (begin > LAST_TICK || now.tearsBy(begin)) {
+        int to = beside(boat.cell, heading);
+        if (to == NONE || begin > LAST_TICK || now.tearsBy(begin)) {
             return 0;
         }
-        return chart.stepTicks(boat.cell, heading, boat.sail, hourOf(begin));
+        // one STEP needs what RULES say of its two CELLS, not of all the sea
+        int hour = hourOf(begin);
+        chart.askOf(boat.cell, hour, boat.sail);
+        chart.askOf(to, hour, boat.sail);
+        chart.draw(TRUTH, LEARNT);
+        return chart.stepTicks(boat.cell, heading, boat.sail, hour);
     }
 
     private boolean isSail(int sail) {
@@ -1550,7 +1554,7 @@ public final class WindBoat {
             isAsked = true;
         }
 
-        private void askOf(int cell, int hour, int sail) {
+        void askOf(int cell, int hour, int sail) {
             int place = (cell * HOURS + hour) * SAILS + sail;
             log.speakOf(cell, log.boat.kinds[sail], hour);
             closed[place] = log.sea.land[cell] || log.rules.answer(SHUT) != 0;
