@@ -652,6 +652,17 @@ final class PromiseEdges {
         x.due(4, "go", 0).then("wind", 6, 0, 25).refused(NO, "go", 0);
     }
 
+    @Sentence("THE BOAT goes (in THE TRUTH, by LEARNT TABLE)")
+    static void p33_with_the_sail_that_is_up() {
+        // FORCE 30 is too much for SAIL 0, but not for SAIL 1, a STORM of PACE 22
+        Run x = Run.ready().then("sail", 2).then("wind", 6, 4, 30).then("at", 1400, 0).refused(NO, "go", 0);
+        x.then("at", 1401, 0).due(5, "go", 0);
+        x.ruled("gust 29 if sail = 0").then("at", 1401, 0).due(5, "go", 0);
+        x.ruled("shut sail = 0").then("at", 1401, 0).due(5, "go", 0);
+        x.ruled("gust 29 if sail = 2").then("at", 1401, 0).refused(NO, "go", 0);
+        x.ruled("gust 30 if sail = 2").due(5, "go", 0).ruled("shut sail = 2").refused(NO, "go", 0);
+    }
+
     @Sentence("TURN to a HEADING (none, if it has it), then STEP, which begins at once: the TICK then")
     static void p33_no_turn_if_it_has_the_heading_and_no_wait() {
         Run x = Run.afloat(0).due(2, "go", 0).due(0, "boat", 1).due(6, "go", 7).due(7, "boat", 1).due(1, "boat", 0)
