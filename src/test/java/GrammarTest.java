@@ -6,10 +6,10 @@ import java.util.Map;
 import java.util.Set;
 
 /**
- * FAULT of every short text, by the document's grammar alone: its productions stand here as the
- * document has them, and Earley's way of reading tells which tokens can stand behind others. No
- * reader is written by hand, so that what a hand would get wrong twice is seen. Argument: how many
- * tokens behind the key (5, if there is none).
+ * FAULT by the document's grammar alone: its productions stand here as the document has them, and
+ * Earley's way of reading tells which tokens can stand behind others. No reader is written by
+ * hand, so that what a hand would get wrong twice is seen. Every row of some tokens is tried, each
+ * up to its first fault. Argument: how many tokens behind the key (5, if there is none).
  */
 public final class GrammarTest {
     private static final int MOST_OPEN = 6;
